@@ -212,7 +212,7 @@ public final class DoubtSale {
         switch (what) {
             case 0: return best;
             case 1: return pairs;
-            case 2: return Integer.compare(best * pairs, bothAlone(left, right));
+            case 2: return Integer.signum(best * pairs - bothAlone(left, right));
             default: return BUNDLE_BAD;
         }
     }
