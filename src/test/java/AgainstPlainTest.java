@@ -13,7 +13,8 @@ public final class AgainstPlainTest {
             Plain plain = somePlain(1 + next(3), top);
             DoubtSale sale = saleOf(plain);
             books(round, plain, sale);
-            bestRule(round, plain, fresh(plain, sale));
+            brings(round, plain, fresh(plain, sale));
+            bestRule(round, plain);
             rules(round, plain, saleOf(plain), top);
             offers(round, plain, saleOf(plain));
         }
@@ -82,8 +83,10 @@ public final class AgainstPlainTest {
         }
     }
 
-    private static void bestRule(int round, Plain plain, DoubtSale sale) {
+    private static void bestRule(int round, Plain plain) {
         for (int p = 0; p < plain.pairs(); p++) {
+            // An object is used for 512 calls at most: so each row of places has one of its own.
+            DoubtSale sale = saleOf(plain);
             int[] at = plain.places(p);
             int j = plain.n > 1 ? at[1] : 77;
             int k = plain.n > 2 ? at[2] : -77;
@@ -99,6 +102,9 @@ public final class AgainstPlainTest {
                 }
             }
         }
+    }
+
+    private static void brings(int round, Plain plain, DoubtSale sale) {
         long[] brings = plain.brings();
         Check.due(round + ": brings(0)", sale.brings(0), brings[0]);
         Check.due(round + ": brings(1)", sale.brings(1), brings[1]);

@@ -6,13 +6,15 @@ public final class AnyArgumentsTest {
         Integer.MIN_VALUE, Integer.MIN_VALUE + 1, -1001, -9, -1, 0, 1, 2, 3, 4, 5, 6, 7, 9, 10, 11, 15, 19, 21, 27, 50,
         999, 1000, 1001, Integer.MAX_VALUE - 1, Integer.MAX_VALUE,
     };
+    /** An object is used for so many calls; the last two of them are count's. */
+    private static final int CALLS = 512;
     private static long seed = 7;
     private static long sum = 0;
 
     public static void main(String[] args) {
         for (int run = 0; run < 400; run++) {
             DoubtSale sale = new DoubtSale();
-            for (int call = 0; call < 512; call++) {
+            for (int call = 0; call < CALLS - 2; call++) {
                 sum += any(sale, call < 40 ? 3 : 21);
             }
             Check.due("more than three buyers or less than one", sale.count(0) >= 1 && sale.count(0) <= 3 ? 1 : 0, 1);
